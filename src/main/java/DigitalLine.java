@@ -13,7 +13,7 @@ public final class DigitalLine {
 
     private static final int NO_POINT = -1000;
 
-    private final int[] move = new int[MAX_MOVES];
+    private final int[] curve = new int[MAX_MOVES];
     private final int[] x = new int[MAX_POINTS];
     private final int[] y = new int[MAX_POINTS];
     private int length;
@@ -76,8 +76,8 @@ public final class DigitalLine {
         if (!isDirection(move)) {
             return -2;
         }
-        int before = this.move[k];
-        this.move[k] = move;
+        int before = curve[k];
+        curve[k] = move;
         placePoints();
         return before;
     }
@@ -85,10 +85,10 @@ public final class DigitalLine {
     /** Promise 6. */
     public int reverse() {
         for (int low = 0, high = length - 1; low <= high; low++, high--) {
-            int first = move[low];
-            int last = move[high];
-            move[low] = (last + HALF_TURN) & DIRECTION_MASK;
-            move[high] = (first + HALF_TURN) & DIRECTION_MASK;
+            int first = curve[low];
+            int last = curve[high];
+            curve[low] = (last + HALF_TURN) & DIRECTION_MASK;
+            curve[high] = (first + HALF_TURN) & DIRECTION_MASK;
         }
         placePoints();
         return length;
@@ -98,7 +98,7 @@ public final class DigitalLine {
     public int turn(int turns) {
         // The mask is right for every int, because a sum that wraps around is off by a multiple of 8.
         for (int k = 0; k < length; k++) {
-            move[k] = (move[k] + turns) & DIRECTION_MASK;
+            curve[k] = (curve[k] + turns) & DIRECTION_MASK;
         }
         placePoints();
         return length;
@@ -111,7 +111,7 @@ public final class DigitalLine {
 
     /** Promise 9. */
     public int moveAt(int k) {
-        return isMoveNumber(k) ? move[k] : -1;
+        return isMoveNumber(k) ? curve[k] : -1;
     }
 
     /** Promise 10. */
@@ -182,7 +182,8 @@ public final class DigitalLine {
 
     /** Promise 19. */
     public int maximal() {
-        // The piece from s - 1 ends no later than the piece from s; it holds that piece if both end alike.
+        // The longest piece from s can be made longer only by point s - 1, and only if the longest
+        // piece from s - 1 ends where it does; it never ends later.
         int count = 0;
         int endBefore = 0;
         for (int s = 0; s < length; s++) {
@@ -212,7 +213,7 @@ public final class DigitalLine {
     }
 
     private void append(int direction) {
-        move[length] = direction;
+        curve[length] = direction;
         length++;
         placePoint(length);
     }
@@ -224,7 +225,7 @@ public final class DigitalLine {
     }
 
     private void placePoint(int k) {
-        int last = move[k - 1];
+        int last = curve[k - 1];
         x[k] = x[k - 1] + stepX(last);
         y[k] = y[k - 1] + stepY(last);
     }
@@ -290,7 +291,7 @@ public final class DigitalLine {
         boolean left = false;
         boolean right = false;
         for (int k = s; k < e; k++) {
-            int turned = (move[k] - move[s]) & DIRECTION_MASK;
+            int turned = (curve[k] - curve[s]) & DIRECTION_MASK;
             if (turned == 1) {
                 left = true;
             } else if (turned == DIRECTION_MASK) {

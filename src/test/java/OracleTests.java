@@ -82,12 +82,13 @@ public final class OracleTests {
     }
 
     private static boolean bandHolds(int[] x, int[] y, int p, int q, int greater) {
-        int m = Integer.MAX_VALUE;
+        // There is an m as asked if and only if the least value will do for m.
+        int least = Integer.MAX_VALUE;
+        int greatest = Integer.MIN_VALUE;
         for (int k = 0; k < x.length; k++) {
-            m = Math.min(m, p * x[k] - q * y[k]);
-        }
-        for (int k = 0; k < x.length; k++) {
-            if (p * x[k] - q * y[k] > m + greater - 1) {
+            least = Math.min(least, p * x[k] - q * y[k]);
+            greatest = Math.max(greatest, p * x[k] - q * y[k]);
+            if (greatest > least + greater - 1) {
                 return false;
             }
         }
