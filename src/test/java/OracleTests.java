@@ -17,6 +17,7 @@ public final class OracleTests {
     public static void main(String[] args) {
         everyShortCurve();
         everyTwoMoveWord();
+        everyStraightWord();
         longCurves();
         runsOfCalls();
         System.out.println(wrong == 0 ? "all answers are as due" : wrong + " answers are not as due");
@@ -260,6 +261,62 @@ public final class OracleTests {
                 checkCurve(curve);
             }
         }
+    }
+
+    // All straight words of up to 24 moves, and all that are straight but for their last move: since
+    // a part of a straight piece is straight, this tries straight() on every kind of answer it has.
+    private static void everyStraightWord() {
+        int[][] words = {{}};
+        for (int n = 1; n <= 24; n++) {
+            int[][] longer = new int[2 * words.length][];
+            int count = 0;
+            for (int[] word : words) {
+                for (int step = 0; step <= 1; step++) {
+                    int[] bits = java.util.Arrays.copyOf(word, n);
+                    bits[n - 1] = step;
+                    if (checkWord(bits)) {
+                        longer[count] = bits;
+                        count++;
+                    }
+                }
+            }
+            words = java.util.Arrays.copyOf(longer, count);
+        }
+    }
+
+    private static boolean checkWord(int[] bits) {
+        int n = bits.length;
+        int u = next(8);
+        moves = new int[n];
+        for (int k = 0; k < n; k++) {
+            moves[k] = (u + bits[k]) % 8;
+        }
+        boolean want = someBandHolds(0, n);
+        // Known of such words: a band holds them if and only if they are balanced.
+        due("bands and balance agree", isBalanced(bits) ? 1 : 0, want ? 1 : 0);
+        makeLine();
+        due("straight(0, " + n + ")", line.straight(0, n), want ? 1 : 0);
+        due("reach(0)", line.reach(0), want ? n : n - 1);
+        return want;
+    }
+
+    private static boolean isBalanced(int[] bits) {
+        for (int size = 1; size <= bits.length; size++) {
+            int least = size;
+            int most = 0;
+            for (int from = 0; from + size <= bits.length; from++) {
+                int ones = 0;
+                for (int k = from; k < from + size; k++) {
+                    ones += bits[k];
+                }
+                least = Math.min(least, ones);
+                most = Math.max(most, ones);
+            }
+            if (most - least > 1) {
+                return false;
+            }
+        }
+        return true;
     }
 
     // Lines of every slope with up to 24 across, whole and with one or two moves changed.
