@@ -858,6 +858,8 @@ public final class BoundaryTests {
         }
         ask(FULL_LINE, "reach(0)", line -> line.reach(0), 24);
         ask(FULL_LINE, "reach(23)", line -> line.reach(23), 24);
+        ask("000000000000000000000004", "reach(0)", line -> line.reach(0), 23);
+        ask("000000000000000000000002", "reach(22)", line -> line.reach(22), 23);
         ask(FULL_ZIGZAG, "reach(0)", line -> line.reach(0), 1);
         ask(FULL_ZIGZAG, "reach(23)", line -> line.reach(23), 24);
     }
@@ -871,6 +873,8 @@ public final class BoundaryTests {
         }
         ask(FULL_LINE, "reachBack(24)", line -> line.reachBack(24), 0);
         ask(FULL_LINE, "reachBack(1)", line -> line.reachBack(1), 0);
+        ask("400000000000000000000000", "reachBack(24)", line -> line.reachBack(24), 1);
+        ask("200000000000000000000000", "reachBack(2)", line -> line.reachBack(2), 1);
         ask(FULL_ZIGZAG, "reachBack(24)", line -> line.reachBack(24), 23);
         ask(FULL_ZIGZAG, "reachBack(1)", line -> line.reachBack(1), 0);
     }

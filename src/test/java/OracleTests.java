@@ -263,8 +263,8 @@ public final class OracleTests {
         }
     }
 
-    // All straight words of up to 24 moves, and all that are straight but for their last move: since
-    // a part of a straight piece is straight, this tries straight() on every kind of answer it has.
+    // All straight words of up to 24 moves, and all that are straight but for their last move; every
+    // other word of two neighbouring moves begins with one of the latter.
     private static void everyStraightWord() {
         int[][] words = {{}};
         for (int n = 1; n <= 24; n++) {
