@@ -29,6 +29,7 @@ public final class PromiseTests {
         promise19Maximal();
         questionsChangeNothing();
         objectsAreApart();
+        runOfTheReadme();
         System.out.println(wrong == 0 ? "all answers are as due" : wrong + " answers are not as due");
         if (wrong != 0) {
             System.exit(1);
@@ -547,5 +548,23 @@ public final class PromiseTests {
         one.turn(1);
         dueMoves("turning another object", other, "4567");
         dueMoves("turn(1)", one, "123");
+    }
+
+    // The run that README.md shows, so that what it says stays true.
+    private static void runOfTheReadme() {
+        DigitalLine line = new DigitalLine();
+        due("README: draw(8 * 3 + 0, 7, 14)", line.draw(8 * 3 + 0, 7, 14), 14);
+        due("README: straight(0, 14)", line.straight(0, 14), 1);
+        due("README: push(1)", line.push(1), 15);
+        due("README: push(1)", line.push(1), 16);
+        due("README: straight(0, 16)", line.straight(0, 16), 0);
+        due("README: reach(0)", line.reach(0), 14);
+        due("README: pieces()", line.pieces(), 2);
+        due("README: pieceEnd(0)", line.pieceEnd(0), 14);
+        due("README: fewest(0, 16)", line.fewest(0, 16), 2);
+        due("README: pointX(16)", line.pointX(16), 16);
+        due("README: pointY(16)", line.pointY(16), 8);
+        due("README: push(8)", line.push(8), -1);
+        due("README: moves()", line.moves(), 16);
     }
 }
